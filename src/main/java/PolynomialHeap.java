@@ -10,9 +10,6 @@ public final class PolynomialHeap {
     private static final int GREATEST_POWER = 100;
     private static final int GREATEST_SQUARE = 8;
 
-    // Both other variables of a resultant stay within the bound, and so do those of its minors.
-    private static final int MINOR_ROOM = (GREATEST_BOUND + 1) * (GREATEST_BOUND + 1);
-
     private final Field field;
     private final Sheet sheet;
     private final PowerTable powers;
@@ -27,12 +24,12 @@ public final class PolynomialHeap {
         sheet = new Sheet(field);
         powers = new PowerTable(field);
         for (int r = 0; r < registers.length; r++) {
-            registers[r] = new Polynomial(Monomial.HOW_MANY);
+            registers[r] = new Polynomial();
         }
         for (int c = 0; c < minors.length; c++) {
-            minors[c] = new Polynomial(MINOR_ROOM);
+            minors[c] = new Polynomial();
         }
-        spare = new Polynomial(Monomial.HOW_MANY);
+        spare = new Polynomial();
     }
 
     public void constant(int r, int c) throws IndexOutOfBoundsException {
@@ -89,7 +86,8 @@ public final class PolynomialHeap {
         return true;
     }
 
-    public void divide(int r, int a, int b, boolean quotient) throws IndexOutOfBoundsException, IllegalArgumentException {
+    public void divide(int r, int a, int b, boolean quotient)
+            throws IndexOutOfBoundsException, IllegalArgumentException {
         checkRegisters(r, a, b);
         Polynomial divisor = registers[b];
         if (divisor.isZero()) {
@@ -185,8 +183,7 @@ public final class PolynomialHeap {
         Polynomial source = registers[a];
         int sum = 0;
         for (int i = 0; i < source.size; i++) {
-            int part = field.product(source.coefficients[i], powers.at(source.monomials[i]));
-            sum = field.reduced(sum + part);
+            sum = field.sumWithProduct(sum, source.coefficients[i], powers.at(source.monomials[i]));
         }
         return sum;
     }
@@ -360,6 +357,10 @@ public final class PolynomialHeap {
             return x * y % prime;
         }
 
+        int sumWithProduct(int sum, int x, int y) {
+            return (sum + x * y) % prime;
+        }
+
         int negative(int x) {
             return x == 0 ? 0 : prime - x;
         }
@@ -429,22 +430,24 @@ public final class PolynomialHeap {
         }
     }
 
-    /** Terms, the highest first, in rows that are long enough for all that it may ever hold. */
+    /** Terms, the highest first. */
     private static final class Polynomial {
-        final int[] monomials;
-        final int[] coefficients;
-        int size;
+        private static final int FIRST_ROOM = 16;
 
-        Polynomial(int room) {
-            monomials = new int[room];
-            coefficients = new int[room];
-        }
+        int[] monomials = new int[FIRST_ROOM];
+        int[] coefficients = new int[FIRST_ROOM];
+        int size;
 
         void clear() {
             size = 0;
         }
 
         void append(int monomial, int coefficient) {
+            if (size == monomials.length) {
+                // Twice the room each time: all rows that it ever had are together no more than twice its last ones.
+                monomials = Arrays.copyOf(monomials, 2 * size);
+                coefficients = Arrays.copyOf(coefficients, 2 * size);
+            }
             monomials[size] = monomial;
             coefficients[size] = coefficient;
             size++;
@@ -521,15 +524,15 @@ public final class PolynomialHeap {
             return firstRanks[Monomial.sumAndFirst(monomial)] + Monomial.exponent(monomial, 1);
         }
 
-        void addTerm(int monomial, int coefficient) {
+        private void addTerm(int monomial, int factor, int coefficient) {
             int rank = rankOf(monomial);
-            cells[rank] = field.reduced(cells[rank] + coefficient);
+            cells[rank] = field.sumWithProduct(cells[rank], factor, coefficient);
             end = Math.max(end, rank + 1);
         }
 
         void addMultiple(Polynomial polynomial, int factor, int monomial) {
             for (int i = 0; i < polynomial.size; i++) {
-                addTerm(polynomial.monomials[i] + monomial, factor * polynomial.coefficients[i]);
+                addTerm(polynomial.monomials[i] + monomial, factor, polynomial.coefficients[i]);
             }
         }
 
@@ -544,7 +547,7 @@ public final class PolynomialHeap {
             for (int i = 0; i < polynomial.size; i++) {
                 int monomial = polynomial.monomials[i];
                 if (Monomial.exponent(monomial, v) == e) {
-                    addTerm(Monomial.without(monomial, v), polynomial.coefficients[i]);
+                    addTerm(Monomial.without(monomial, v), 1, polynomial.coefficients[i]);
                 }
             }
         }

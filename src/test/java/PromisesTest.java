@@ -408,6 +408,12 @@ public final class PromisesTest {
         Desk.write(x, 1, t(1, 1, 7, 0));
         Check.due("10: 6 and 7", x.resultant(2, 0, 1, 0), false);
         Check.due("10: v itself has no bound", x.resultant(2, 0, 1, 2), true);
+        for (int v = 0; v < 3; v++) {
+            for (int u = 0; u < 3; u++) {
+                boundOfOther(v, u, 6, true);
+                boundOfOther(v, u, 7, v == u);
+            }
+        }
         Desk.write(x, 0, t(1, 0, 12, 12));
         Desk.write(x, 1, t(1, 2, 0, 0));
         Check.due("10: twice 12", x.resultant(2, 0, 1, 0), false);
@@ -421,6 +427,18 @@ public final class PromisesTest {
         Desk.write(x, 1, t(1, 0, 0, 2));
         Check.due("10: none of a's rows", x.resultant(2, 0, 1, 0), true);
         reads("10: none of a's rows", x, 2, "1 z10");
+    }
+
+    /** Of v u^6 and v u^e by v; for u = v of v and v^2, which have no other variable. */
+    private static void boundOfOther(int v, int u, int e, boolean want) {
+        PolynomialHeap x = heap(7);
+        x.variable(0, v);
+        x.variable(1, u);
+        x.power(2, 1, v == u ? 0 : 6);
+        x.power(3, 1, v == u ? 1 : e);
+        x.multiply(2, 0, 2);
+        x.multiply(3, 0, 3);
+        Check.due("10: by " + v + ", 6 and " + e + " of " + u, x.resultant(4, 2, 3, v), want);
     }
 
     private static void value() {
@@ -481,6 +499,11 @@ public final class PromisesTest {
         for (int[] e : far) {
             Check.due("14: far " + e[0] + " " + e[1] + " " + e[2], Check.outcome(() -> x.coefficient(0, e[0], e[1], e[2])), 0);
         }
+        // Exponents that would look like those of x4, y4 and x4 z8 if their bits ran into one another.
+        Desk.write(x, 2, t(2, 4, 0, 0), t(3, 0, 4, 0), t(4, 4, 0, 8));
+        Check.due("14: like x4", x.coefficient(2, (1 << 20) + 4, 0, 0), 0);
+        Check.due("14: like y4", x.coefficient(2, 0, (4 << 12) + 4, 0), 0);
+        Check.due("14: like x4 z8", x.coefficient(2, 0, 0, (4 << 18) + (4 << 12) + 8), 0);
         for (int e : new int[] {-1, LOW}) {
             Check.thrown("14: e0 = " + e, Check.ARGUMENT, () -> x.coefficient(0, e, 0, 0));
             Check.thrown("14: e1 = " + e, Check.ARGUMENT, () -> x.coefficient(0, 0, e, HIGH));
@@ -523,6 +546,11 @@ public final class PromisesTest {
         int[] fresh = {13, 0, 12, 0, 0};
         for (int what = 0; what < 5; what++) {
             Check.due("17: of a new object, " + what, x.count(what), fresh[what]);
+        }
+        for (int v = 0; v < 3; v++) {
+            x.variable(11 * (v % 2), v);
+            Check.due("17: the greatest degree, of " + v, x.count(3), 1);
+            x.constant(11 * (v % 2), 0);
         }
         Desk.write(x, 0, t(4, 3, 1, 2), t(5, 0, 2, 0));
         Desk.write(x, 4, t(4, 0, 0, 7));
