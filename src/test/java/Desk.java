@@ -25,15 +25,23 @@ final class Desk {
         return new int[] {coefficient, e0, e1, e2};
     }
 
+    /** Such as "3 x2 y". */
+    static String text(int coefficient, int... exponents) {
+        StringBuilder text = new StringBuilder().append(coefficient);
+        for (int v = 0; v < 3; v++) {
+            int e = exponents[v];
+            text.append(e == 0 ? "" : " " + NAMES[v] + (e == 1 ? "" : e));
+        }
+        return text.toString();
+    }
+
     /** Such as "3 x2 y + 1", the highest term first; "0" without terms. */
     static String read(PolynomialHeap heap, int r) {
         StringBuilder text = new StringBuilder();
-        for (int i = 0; i < heap.terms(r); i++) {
-            text.append(i == 0 ? "" : " + ").append(heap.term(r, i, 0));
-            for (int v = 0; v < 3; v++) {
-                int e = heap.term(r, i, 1 + v);
-                text.append(e == 0 ? "" : " " + NAMES[v] + (e == 1 ? "" : e));
-            }
+        int terms = heap.terms(r);
+        for (int i = 0; i < terms; i++) {
+            text.append(i == 0 ? "" : " + ")
+                .append(text(heap.term(r, i, 0), heap.term(r, i, 1), heap.term(r, i, 2), heap.term(r, i, 3)));
         }
         return text.length() == 0 ? "0" : text.toString();
     }
